@@ -125,7 +125,7 @@ public final class NameNet {
 
     public boolean turn(int node, int face, boolean up) {
         Face one = linkFace(node, face);
-        if (one == null || !one.isLinked() || one.up == up) {
+        if (one == null || one.up == up) {
             return false;
         }
         Face other = linkFace(one.otherNode, one.otherFace);
@@ -191,12 +191,11 @@ public final class NameNet {
 
     public boolean alter(int node, int face, boolean twice) {
         Face from = linkFace(node, face);
-        Packet packet = from == null ? null : from.first();
-        if (packet == null) {
+        if (from == null || from.first() == null) {
             return false;
         }
         if (twice) {
-            return from.put(packet);
+            return from.put(from.first());
         }
         from.dropFirst();
         return true;
@@ -872,7 +871,6 @@ public final class NameNet {
             for (int face = 0; face < FACES; face++) {
                 askNonce[face] = NONE;
                 errandNonce[face] = NONE;
-                nacked[face] = false;
             }
         }
 

@@ -186,6 +186,12 @@ public final class FetchTest {
         fetched(net, 0, 0, 1, 0);
         Check.due("broken", net.pump(0), -2);
         Check.due("no more requests", net.request(3, 0), -1);
+        net.fetch(0, 0, 2, 1);
+        fetched(net, 0, 0, 0, 0);
+        for (int i = 0; i < 3; i++) {
+            Check.due("a try of the new fetch", net.pump(0), 1);
+        }
+        Check.due("broken anew", net.pump(0), 0);
     }
 
     private static void promise14AsksLateSegmentsAgain() {

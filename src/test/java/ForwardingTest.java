@@ -13,6 +13,7 @@ public final class ForwardingTest {
         promise9RefusesAllRequestsOfTheNameAndFlags();
         promise9TakesTheLongestPrefix();
         promise9TakesTheCheapestFace();
+        promise9NameZeroIsAPrefixOfAllNames();
         promise9HopsEnd();
         promise9NoOtherFaceWhenHopsIsZero();
         promise9SecondAskFromAnotherFaceWaits();
@@ -23,6 +24,8 @@ public final class ForwardingTest {
         promise10ANackTriesTheNextFace();
         promise10ANackTakesTheLatestHops();
         promise10NacksOfOtherErrandsAreNothing();
+        promise10ASecondNackIsNothing();
+        promise10ANackOfAnOlderNonceIsNothing();
         promise10AFailureTellsAllAskers();
         promise10ADataEndsAllEntriesThatItAnswers();
         promise10AStrayDataIsLost();
@@ -295,6 +298,19 @@ public final class ForwardingTest {
         Check.due("waits, errands are out", net.request(4, 0), 0);
     }
 
+    private static void promise9NameZeroIsAPrefixOfAllNames() {
+        NameNet net = new NameNet(0, 6, 9);
+        int d = Check.make(net, "/a/b/c/d");
+        net.announce(0, 0, true);
+        net.publish(0, d, 6, 0);
+        net.ask(0, d, 0, 0);
+        Check.request(net, 0, 1, d, 6);
+        net.ask(0, 0, 1, 0);
+        Check.request(net, 1, 1, d, 6);
+        net.ask(0, 0, 0, 0);
+        Check.request(net, 2, 2, -1, 0);
+    }
+
     private static void emptyWires(NameNet net, int node) {
         for (int face = 0; face < 4; face++) {
             for (int i = 0; i < 8; i++) {
@@ -395,6 +411,7 @@ public final class ForwardingTest {
         Check.carry(net, 1, 1, 2);
         Check.due("refused", net.request(0, 0), 2);
         Check.due("no entry is left", net.waiting(0, 0), 0);
+        Check.due("what came round was no ask", net.waiting(0, 3), 0);
     }
 
     /**
@@ -533,6 +550,43 @@ public final class ForwardingTest {
         Check.carry(net, 2, 0, 2);
         Check.due("a nack at a face without an errand is nothing", net.waiting(0, 0), 1);
         Check.due("the second waits", net.request(1, 0), 0);
+    }
+
+    private static void promise10ASecondNackIsNothing() {
+        NameNet net = new NameNet(0, 6, 9);
+        for (int face = 0; face < 3; face++) {
+            net.link(0, face, face + 1, 0);
+            net.announce(face + 1, 0, true);
+            Check.carry(net, face + 1, 0, 3);
+        }
+        emptyWires(net, 0);
+        net.ask(0, 0, 3, 9);
+        Check.carry(net, 0, 0, 0);
+        net.alter(1, 0, true);
+        Check.carry(net, 1, 0, 2);
+        Check.due("tries face 1", net.waiting(0, 3), 1);
+        Check.carry(net, 1, 0, 2);
+        Check.due("does not try face 2", net.waiting(0, 4), 0);
+        Check.carry(net, 0, 1, 0);
+        Check.carry(net, 2, 0, 2);
+        Check.due("tries face 2", net.waiting(0, 4), 1);
+    }
+
+    private static void promise10ANackOfAnOlderNonceIsNothing() {
+        NameNet net = new NameNet(0, 6, 1);
+        net.link(0, 0, 1, 0);
+        net.announce(1, 0, true);
+        Check.carry(net, 1, 0, 3);
+        net.ask(0, 0, 0, 9);
+        Check.carry(net, 0, 0, 0);
+        Check.due("the entry ends", net.tick(), 1);
+        net.ask(0, 0, 0, 9);
+        Check.carry(net, 1, 0, 2);
+        Check.due("the second waits still", net.request(1, 0), 0);
+        Check.due("its entry is there", net.waiting(0, 0), 1);
+        Check.carry(net, 0, 0, 0);
+        Check.carry(net, 1, 0, 2);
+        Check.due("refused by its own nack", net.request(1, 0), 2);
     }
 
     private static void promise10AFailureTellsAllAskers() {

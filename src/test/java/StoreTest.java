@@ -6,6 +6,7 @@ public final class StoreTest {
         promise9ServesFreshenedAsksWithFreshDatas();
         promise9ServesBeforeItLooksForRoom();
         promise9ServesAnswersAllWaitingRequests();
+        promise10NacksWhatCameRoundThoughItIsStored();
         promise10ServesOtherNodes();
         promise10KeepsADataOnceAndAnew();
         promise18TellsTheOrderOfUse();
@@ -136,6 +137,33 @@ public final class StoreTest {
         Check.request(net, 0, 1, a, 10);
         Check.due("refused at node 1, not answered", net.request(2, 0), 2);
         Check.due("the entry stays", net.waiting(0, 0), 1);
+    }
+
+    private static void promise10NacksWhatCameRoundThoughItIsStored() {
+        NameNet net = new NameNet(1, 6, 9);
+        net.link(0, 0, 1, 0);
+        net.link(1, 1, 2, 0);
+        net.link(1, 2, 3, 0);
+        int a = Check.make(net, "/a");
+        net.announce(2, a, true);
+        net.announce(3, 0, true);
+        Check.carry(net, 2, 0, 3);
+        Check.carry(net, 3, 0, 3);
+        Check.carry(net, 1, 0, 3);
+        Check.carry(net, 1, 0, 3);
+        Check.carry(net, 1, 2, 3);
+        net.publish(3, a, 10, 0);
+        net.ask(0, a, 0, 9);
+        net.alter(0, 0, true);
+        Check.carry(net, 0, 0, 0);
+        net.ask(1, 0, 1, 9);
+        Check.carry(net, 1, 2, 0);
+        Check.carry(net, 3, 0, 1);
+        Check.due("stored", net.stored(1, a), 0);
+        Check.due("the entry of /a waits", net.waiting(1, 0), 1);
+        Check.carry(net, 0, 0, 0);
+        Check.carry(net, 1, 0, 2);
+        Check.due("refused", net.request(0, 0), 2);
     }
 
     private static void promise10ServesOtherNodes() {
