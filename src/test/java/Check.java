@@ -1,13 +1,19 @@
 /** What the tests share: counting wrong answers, and typing names. */
 final class Check {
     private static int wrong = 0;
+    private static String sentence = "";
 
     private Check() { }
+
+    /** The document's words that a test holds the program to: told with each wrong answer. */
+    static void says(String words) {
+        sentence = "\"" + words + "\": ";
+    }
 
     static void due(String what, long got, long want) {
         if (got != want) {
             wrong++;
-            System.out.println(what + ": answered " + got + ", due is " + want);
+            System.out.println(sentence + what + ": answered " + got + ", due is " + want);
         }
     }
 

@@ -67,14 +67,9 @@ public final class FaceTest {
     }
 
     private static void privateMethodsHaveNamesOfTheirOwn() {
-        List<Class<?>> classes = new ArrayList<>(List.of(NameNet.class.getDeclaredClasses()));
-        classes.add(NameNet.class);
-        for (Class<?> c : classes) {
-            for (Method m : c.getDeclaredMethods()) {
-                boolean ofTheFace = List.of(FACE).toString().contains("." + m.getName() + "(");
-                boolean isFace = c == NameNet.class && Modifier.isPublic(m.getModifiers());
-                Check.due("name of " + m, ofTheFace, isFace);
-            }
+        for (Method m : NameNet.class.getDeclaredMethods()) {
+            boolean ofTheFace = List.of(FACE).toString().contains("." + m.getName() + "(");
+            Check.due("name of " + m, ofTheFace, Modifier.isPublic(m.getModifiers()));
         }
     }
 

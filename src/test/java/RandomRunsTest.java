@@ -1,12 +1,14 @@
 import java.util.Random;
 
 /**
- * Runs of 512 calls, drawn with fixed seeds, on a NameNet and on the Model: all answers, and all
- * that can be seen of the two after each call of a part of the runs, must be the same.
+ * Runs of 512 calls, drawn with fixed seeds, on a NameNet and on the Model: all answers must be the
+ * same. The last calls of a run, in some runs most of them, look at what the calls before left.
  */
 public final class RandomRunsTest {
-    private static final int RUNS = 4000;
+    private static final int RUNS = 6000;
     private static final int CALLS = 512;
+    /** The most calls of one look. */
+    private static final int LOOKS = 6;
     private static final int[] ODD = {Integer.MIN_VALUE, -1000, -2, -1, 4, 5, 6, 9, 10, 11, 21, 47,
         48, 49, 120, 121, 1000, Integer.MAX_VALUE};
 
@@ -15,8 +17,10 @@ public final class RandomRunsTest {
     private final Model model;
     private final int oddness;
     private final int tickWeight;
+    private final int askWeight;
     private String text = "";
     private int typedTo = 0;
+    private int calls = 0;
 
     private RandomRunsTest(long seed) {
         random = new Random(seed);
@@ -27,6 +31,7 @@ public final class RandomRunsTest {
         model = new Model(store, pending, life);
         oddness = random.nextInt(4) == 0 ? 10 : 100;
         tickWeight = random.nextInt(4);
+        askWeight = random.nextInt(4);
     }
 
     public static void main(String[] args) {
@@ -37,19 +42,18 @@ public final class RandomRunsTest {
     }
 
     private void run(long seed) {
-        for (int call = 0; call < CALLS; call++) {
-            String told = step(call);
-            if (told == null && seed % 20 == 0) {
-                told = compareAll();
-            }
-            if (told != null) {
-                Check.due("run " + seed + ", call " + call + ": " + told, 1, 0);
-                return;
-            }
+        int steps = 60 + random.nextInt(400);
+        String told = null;
+        while (told == null && calls < steps) {
+            told = step();
         }
-        String told = compareAll();
+        int place = 0;
+        while (told == null && calls + LOOKS <= CALLS) {
+            told = lookAt(place);
+            place++;
+        }
         if (told != null) {
-            Check.due("run " + seed + ", at its end: " + told, 1, 0);
+            Check.due("run " + seed + ", call " + calls + ": " + told, 1, 0);
         }
     }
 
@@ -70,7 +74,7 @@ public final class RandomRunsTest {
         return odd(random.nextInt(random.nextBoolean() ? Math.min(there, 6) : there));
     }
 
-    private String step(int call) {
+    private String step() {
         if (typedTo < text.length()) {
             char c = text.charAt(typedTo++);
             return same("write " + c, net.write(c) ? 1 : 0, model.write(c) ? 1 : 0);
@@ -79,8 +83,8 @@ public final class RandomRunsTest {
             text = "";
             return same("name", net.name(), model.name());
         }
-        if (call < 12) {
-            return call % 2 == 0 ? link() : announce();
+        if (calls < 12) {
+            return calls % 2 == 0 ? link() : announce();
         }
         switch (random.nextInt(30)) {
             case 0: return typeAName();
@@ -94,7 +98,7 @@ public final class RandomRunsTest {
             case 8: return pump();
             case 9: case 10: case 11: case 12: case 13: return ask();
             case 14: return look();
-            default: return carry();
+            default: return random.nextInt(8) < askWeight ? ask() : carry();
         }
     }
 
@@ -209,38 +213,35 @@ public final class RandomRunsTest {
         return told != null ? told : same("request", net.request(r, what), model.request(r, what));
     }
 
-    private String compareAll() {
-        for (int n = 0; n < 5; n++) {
-            for (int what = 0; what < 6; what++) {
-                if (net.waiting(n, what) != model.waiting(n, what)) {
-                    return "waiting(" + n + ", " + what + ") is not as due";
-                }
-                if (net.fetched(n, what) != model.fetched(n, what)) {
-                    return "fetched(" + n + ", " + what + ") is not as due";
-                }
+    /** Place by place all that is small, then what chance has it. */
+    private String lookAt(int place) {
+        if (place < 5) {
+            String told = null;
+            for (int what = 0; what < 6 && told == null; what++) {
+                told = same("waiting", net.waiting(place, what), model.waiting(place, what));
             }
-            for (int name = 0; name < model.names.size(); name++) {
-                if (net.stored(n, name) != model.stored(n, name)) {
-                    return "stored(" + n + ", " + name + ") is not as due";
-                }
-                for (int f = 0; f < 5; f++) {
-                    if (net.cost(n, name, f) != model.cost(n, name, f)) {
-                        return "cost(" + n + ", " + name + ", " + f + ") is not as due";
-                    }
-                }
-            }
+            return told;
         }
-        for (int r = 0; r <= model.requests.size(); r++) {
-            for (int what = 0; what < 3; what++) {
-                if (net.request(r, what) != model.request(r, what)) {
-                    return "request(" + r + ", " + what + ") is not as due";
-                }
+        if (place < 10) {
+            String told = null;
+            for (int what = 0; what < 4 && told == null; what++) {
+                told = same("fetched", net.fetched(place - 5, what), model.fetched(place - 5, what));
             }
+            return told;
         }
-        return null;
+        if (place % 3 == 0) {
+            int r = random.nextInt(model.requests.size() + 1);
+            String told = null;
+            for (int what = 0; what < 3 && told == null; what++) {
+                told = same("request " + r, net.request(r, what), model.request(r, what));
+            }
+            return told;
+        }
+        return look();
     }
 
-    private static String same(String call, int got, int want) {
+    private String same(String call, int got, int want) {
+        calls++;
         return got == want ? null : call + " answered " + got + ", due is " + want;
     }
 }
