@@ -38,7 +38,9 @@ public final class AnswerBoundsTest {
         aFailureNacksWithEachAskersNonce();
         aNackRefusesAllWaitingRequests();
         aDataAnswersWaitingRequestsAlone();
+        aStoredDataAnswersWaitingRequestsToo();
         requestsAreLateAfterLifeTicks();
+        nowCountsAllTicks();
         tickEndsAsksThatEndNow();
         tickLeavesEntriesWithAsks();
         tickCountsTheEntriesOfAllNodes();
@@ -562,6 +564,52 @@ public final class AnswerBoundsTest {
         Check.request(net, 2, 1, a, 5);
         Check.due("of other flags, by its own entry", net.request(3, 0), 1);
         Check.request(net, 4, 2, -1, 0);
+    }
+
+    /** The first waits for face 0, where the data did not come: the entry of face 1 had it kept. */
+    private static void aStoredDataAnswersWaitingRequestsToo() {
+        Check.says("(or, from the store, the interest's) name and flags is ANSWERED with it");
+        NameNet net = Nets.star(2, 1, 6, 9);
+        int a = Check.make(net, "/a");
+        Nets.tell(net, 1, a);
+        Nets.tell(net, 2, 0);
+        net.publish(2, a, 5, 0);
+        net.ask(0, a, 0, 9);
+        net.ask(0, a, 1, 9);
+        net.ask(0, 0, 1, 9);
+        Check.carry(net, 0, 1, 0);
+        Check.carry(net, 2, 0, 1);
+        Check.request(net, 2, 1, a, 5);
+        Check.request(net, 0, 0, -1, 0);
+        net.ask(0, a, 0, 9);
+        Check.request(net, 3, 1, a, 5);
+        Check.request(net, 0, 1, a, 5);
+        Check.request(net, 1, 0, -1, 0);
+        Check.due("the entries stay", net.waiting(0, 0), 2);
+    }
+
+    private static void nowCountsAllTicks() {
+        Check.says("NOW counts ticks, from 0 on.");
+        NameNet net = Nets.pair(1, 6, 9);
+        net.publish(1, 0, 5, 20);
+        for (int i = 0; i < 400; i++) {
+            Check.due("no entry to end", net.tick(), 0);
+        }
+        net.ask(0, 0, 0, 9);
+        for (int i = 0; i < 8; i++) {
+            net.tick();
+        }
+        Check.due("it waits for eight ticks", net.request(0, 0), 0);
+        Check.carry(net, 0, 0, 0);
+        Check.carry(net, 1, 0, 1);
+        Check.request(net, 0, 1, 0, 5);
+        for (int i = 0; i < 19; i++) {
+            net.tick();
+        }
+        Check.due("fresh for 19 ticks", net.request(net.ask(0, 0, 2, 0), 0), 1);
+        net.tick();
+        Check.due("not for 20", net.request(net.ask(0, 0, 2, 0), 0), 2);
+        Check.due("nothing was late", net.request(0, 0), 1);
     }
 
     private static void requestsAreLateAfterLifeTicks() {

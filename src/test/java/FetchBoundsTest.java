@@ -12,12 +12,14 @@ public final class FetchBoundsTest {
         aRefusedFetchMakesNoneAndLeavesTheOlderOne();
         segmentsAreMadeInTheirOrder();
         anOlderFetchIsGone();
+        aNewFetchIsNotBrokenAndHasNoTries();
         anotherNodesFetchStays();
         pumpRefusesNodesThatAreNone();
         pumpRefusesANodeWithoutAFetch();
         pumpRefusesABrokenFetch();
         pumpRefusesWhenAllIsHadAheadOfTheRound();
         pumpAsksLessThanTheWindow();
+        tenSegmentsCanBeHad();
         whatIsAnsweredAtOnceIsAskedInThisRound();
         anAnsweredSegmentIsNotAskedAgain();
         aWaitingSegmentStaysAsked();
@@ -162,6 +164,10 @@ public final class FetchBoundsTest {
             Check.due("/v/" + i, Check.name(net, "/v/" + i), want);
             Check.due("its parent", net.parent(want), v);
         }
+        net.fetch(0, 0, 10, 1);
+        for (int i = 0; i < 10; i++) {
+            Check.due("/" + i, Check.name(net, "/" + i), 12 + i);
+        }
     }
 
     private static void anOlderFetchIsGone() {
@@ -178,6 +184,20 @@ public final class FetchBoundsTest {
         Check.due("had", net.pump(0), 0);
         fetched(net, 1, 0, 0, 1);
         Check.due("all", net.pump(0), -3);
+    }
+
+    private static void aNewFetchIsNotBrokenAndHasNoTries() {
+        Check.says("is wanted (at first), ASKED (by a request) or HAD, and has TRIES (0 at first)");
+        NameNet net = new NameNet(0, 6, 9);
+        for (int round = 0; round < 2; round++) {
+            Check.due("fetch", net.fetch(0, 0, 1, 1), true);
+            fetched(net, 0, 0, 0, 0);
+            for (int tries = 1; tries <= 3; tries++) {
+                Check.due("try " + tries, net.pump(0), 1);
+            }
+            Check.due("the round in which it breaks", net.pump(0), 0);
+            fetched(net, 0, 0, 1, 0);
+        }
     }
 
     private static void anotherNodesFetchStays() {
@@ -250,6 +270,18 @@ public final class FetchBoundsTest {
                 Check.due("no more requests", net.request(most, 0), -1);
             }
         }
+    }
+
+    private static void tenSegmentsCanBeHad() {
+        Check.says("Begins a fetch at a node of segments 0 .. count - 1 of a name");
+        NameNet net = producer(10, 4);
+        for (int had = 0; had <= 8; had += 4) {
+            Check.due("asked", net.pump(0), Math.min(4, 10 - had));
+            fetched(net, had, Math.min(4, 10 - had), 0, (1 << had) - 1);
+        }
+        Check.due("none is left to ask", net.pump(0), 0);
+        fetched(net, 10, 0, 0, 1023);
+        Check.due("all is had", net.pump(0), -3);
     }
 
     private static void whatIsAnsweredAtOnceIsAskedInThisRound() {
@@ -419,10 +451,11 @@ public final class FetchBoundsTest {
         int below = Check.make(net, "/0/x");
         net.publish(1, below, 8, 0);
         net.pump(0);
-        net.ask(0, 1, 0, 0);
-        Check.due("an entry of flags 0 is there", net.waiting(0, 0), 1);
-        net.ask(0, 1, 1, 9);
-        Check.due("none of flags 1", net.waiting(0, 0), 2);
+        net.ask(0, 1, 0, 9);
+        Check.due("the entry of flags 0 is there", net.waiting(0, 0), 1);
+        Check.carry(net, 0, 0, 0);
+        Check.carry(net, 1, 0, 2);
+        Check.due("a longer name does not answer", net.request(0, 0), 2);
         NameNet far = new NameNet(0, 6, 9);
         for (int node = 0; node < 4; node++) {
             far.link(node, 0, node + 1, 1);

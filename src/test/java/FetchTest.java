@@ -17,15 +17,6 @@ public final class FetchTest {
         Check.end();
     }
 
-    /** Node 1 makes all names known to node 0. */
-    private static NameNet pair(int store, int pending, int life) {
-        NameNet net = new NameNet(store, pending, life);
-        net.link(0, 0, 1, 0);
-        net.announce(1, 0, true);
-        Check.carry(net, 1, 0, 3);
-        return net;
-    }
-
     private static void carryAll(NameNet net) {
         for (int i = 0; i < 8 && net.waiting(0, 2) > 0; i++) {
             net.carry(0, 0);
@@ -100,7 +91,7 @@ public final class FetchTest {
     }
 
     private static void promise13TakesTheOlderOnesPlace() {
-        NameNet net = pair(0, 6, 9);
+        NameNet net = Nets.pair(0, 6, 9);
         int v = Check.make(net, "/v");
         net.fetch(0, v, 3, 2);
         net.publish(1, v + 1, 7, 0);
@@ -117,7 +108,7 @@ public final class FetchTest {
 
     private static void promise14AsksWithinTheWindow() {
         for (int window = 1; window <= 4; window++) {
-            NameNet net = pair(0, 6, 9);
+            NameNet net = Nets.pair(0, 6, 9);
             int v = Check.make(net, "/v");
             net.fetch(0, v, 6, window);
             for (int i = 0; i < 6; i++) {
@@ -142,7 +133,7 @@ public final class FetchTest {
     }
 
     private static void promise14AsksWithoutFlagsAndWithNineHops() {
-        NameNet net = pair(0, 6, 9);
+        NameNet net = Nets.pair(0, 6, 9);
         int v = Check.make(net, "/v");
         net.fetch(0, v, 1, 1);
         int below = Check.make(net, "/v/0/x");
@@ -195,7 +186,7 @@ public final class FetchTest {
     }
 
     private static void promise14AsksLateSegmentsAgain() {
-        NameNet net = pair(0, 6, 2);
+        NameNet net = Nets.pair(0, 6, 2);
         net.fetch(0, 0, 1, 1);
         net.publish(1, 1, 5, 0);
         for (int i = 0; i < 3; i++) {
@@ -213,7 +204,7 @@ public final class FetchTest {
     }
 
     private static void promise14LooksAtAllWhenOneBreaks() {
-        NameNet net = pair(0, 6, 9);
+        NameNet net = Nets.pair(0, 6, 9);
         net.fetch(0, 0, 2, 2);
         net.publish(1, 2, 5, 0);
         net.pump(0);

@@ -197,19 +197,8 @@ public final class ForwardingTest {
         Check.due("no more", net.request(120, 0), -1);
     }
 
-    /** Node 1 knows all names by node 2, node 0 by node 1: a line 0 - 1 - 2 (faces 0-0, 1-0). */
-    private static NameNet line(int store, int pending, int life) {
-        NameNet net = new NameNet(store, pending, life);
-        net.link(0, 0, 1, 0);
-        net.link(1, 1, 2, 0);
-        net.announce(2, 0, true);
-        Check.carry(net, 2, 0, 3);
-        Check.carry(net, 1, 0, 3);
-        return net;
-    }
-
     private static void promise9RefusesAllRequestsOfTheNameAndFlags() {
-        NameNet net = line(0, 6, 9);
+        NameNet net = Nets.line(0, 6, 9);
         int a = Check.make(net, "/a");
         net.ask(0, a, 0, 9);
         net.ask(0, a, 1, 9);
@@ -243,7 +232,7 @@ public final class ForwardingTest {
         Check.carry(net, 1, 0, 3);
         Check.carry(net, 2, 0, 3);
         Check.carry(net, 3, 0, 3);
-        emptyWires(net, 0);
+        Nets.drop(net, 0);
         net.ask(0, abc, 0, 9);
         Check.due("/a/b/c along /a/b", net.waiting(0, 4), 1);
         net.ask(0, ab, 0, 9);
@@ -260,7 +249,7 @@ public final class ForwardingTest {
         net.turn(0, 2, true);
         net.announce(3, ab, false);
         Check.carry(net, 3, 0, 3);
-        emptyWires(net, 0);
+        Nets.drop(net, 0);
         net.ask(0, abc, 1, 9);
         Check.due("a shorter prefix when the route has no cost", net.waiting(0, 3), 1);
     }
@@ -278,13 +267,13 @@ public final class ForwardingTest {
         Check.carry(net, 2, 0, 3);
         Check.due("cost 2", net.cost(0, a, 0), 2);
         Check.due("cost 1", net.cost(0, a, 3), 1);
-        emptyWires(net, 0);
+        Nets.drop(net, 0);
         net.ask(0, a, 0, 9);
         Check.due("not face 0", net.waiting(0, 2), 0);
         Check.due("face 3", net.waiting(0, 5), 1);
         net.announce(3, a, true);
         Check.carry(net, 3, 0, 3);
-        emptyWires(net, 0);
+        Nets.drop(net, 0);
         net.ask(0, a, 1, 9);
         Check.due("the least face of several", net.waiting(0, 4), 1);
         Check.due("and no other one", net.waiting(0, 5), 0);
@@ -311,17 +300,9 @@ public final class ForwardingTest {
         Check.request(net, 2, 2, -1, 0);
     }
 
-    private static void emptyWires(NameNet net, int node) {
-        for (int face = 0; face < 4; face++) {
-            for (int i = 0; i < 8; i++) {
-                net.alter(node, face, false);
-            }
-        }
-    }
-
     private static void promise9HopsEnd() {
         for (int hops = 0; hops <= 3; hops++) {
-            NameNet net = line(0, 6, 9);
+            NameNet net = Nets.line(0, 6, 9);
             int a = Check.make(net, "/a");
             net.publish(2, a, 5, 0);
             net.ask(0, a, 0, hops);
@@ -358,7 +339,7 @@ public final class ForwardingTest {
     }
 
     private static void promise9SecondAskFromAnotherFaceWaits() {
-        NameNet net = line(0, 6, 9);
+        NameNet net = Nets.line(0, 6, 9);
         int a = Check.make(net, "/a");
         net.publish(2, a, 5, 0);
         net.ask(0, a, 0, 9);
@@ -431,7 +412,7 @@ public final class ForwardingTest {
         Check.carry(net, 0, 1, 3);
         Check.carry(net, 1, 1, 3);
         for (int node = 0; node < 4; node++) {
-            emptyWires(net, node);
+            Nets.drop(net, node);
         }
         net.turn(0, 1, false);
         net.ask(1, 0, 0, 9);
@@ -482,7 +463,7 @@ public final class ForwardingTest {
         Check.carry(net, 1, 0, 3);
         Check.carry(net, 2, 0, 3);
         for (int node = 0; node < 4; node++) {
-            emptyWires(net, node);
+            Nets.drop(net, node);
         }
         return net;
     }
@@ -559,7 +540,7 @@ public final class ForwardingTest {
             net.announce(face + 1, 0, true);
             Check.carry(net, face + 1, 0, 3);
         }
-        emptyWires(net, 0);
+        Nets.drop(net, 0);
         net.ask(0, 0, 3, 9);
         Check.carry(net, 0, 0, 0);
         net.alter(1, 0, true);
@@ -599,8 +580,8 @@ public final class ForwardingTest {
         Check.carry(net, 3, 0, 3);
         Check.carry(net, 1, 0, 3);
         Check.carry(net, 1, 1, 3);
-        emptyWires(net, 0);
-        emptyWires(net, 2);
+        Nets.drop(net, 0);
+        Nets.drop(net, 2);
         net.ask(0, a, 0, 5);
         net.ask(2, a, 0, 5);
         net.ask(1, a, 0, 5);
@@ -618,7 +599,7 @@ public final class ForwardingTest {
     }
 
     private static void promise10ADataEndsAllEntriesThatItAnswers() {
-        NameNet net = line(0, 6, 9);
+        NameNet net = Nets.line(0, 6, 9);
         int ab = Check.make(net, "/a/b");
         int a = net.parent(ab);
         int abc = Check.make(net, "/a/b/c");
@@ -645,7 +626,7 @@ public final class ForwardingTest {
     }
 
     private static void promise10AStrayDataIsLost() {
-        NameNet net = line(6, 6, 2);
+        NameNet net = Nets.line(6, 6, 2);
         int a = Check.make(net, "/a");
         net.publish(2, a, 8, 9);
         net.ask(0, a, 0, 9);
@@ -668,7 +649,7 @@ public final class ForwardingTest {
     }
 
     private static void promise12EndsAsksAndEntries() {
-        NameNet net = line(0, 6, 3);
+        NameNet net = Nets.line(0, 6, 3);
         int a = Check.make(net, "/a");
         int b = Check.make(net, "/b");
         net.ask(0, a, 0, 9);
@@ -688,7 +669,7 @@ public final class ForwardingTest {
     }
 
     private static void promise12MakesRequestsLate() {
-        NameNet net = line(0, 6, 2);
+        NameNet net = Nets.line(0, 6, 2);
         int a = Check.make(net, "/a");
         net.ask(0, a, 0, 9);
         net.tick();
@@ -716,7 +697,7 @@ public final class ForwardingTest {
         net.link(4, 0, 0, 2);
         net.announce(0, 0, true);
         Check.carry(net, 0, 2, 3);
-        emptyWires(net, 0);
+        Nets.drop(net, 0);
         net.ask(0, a, 0, 9);
         Check.due("the app nacks, face 0 is next", net.waiting(0, 2), 1);
         for (int i = 0; i < 5; i++) {
@@ -737,7 +718,7 @@ public final class ForwardingTest {
     }
 
     private static void promise19TellsRequests() {
-        NameNet net = line(0, 6, 1);
+        NameNet net = Nets.line(0, 6, 1);
         int a = Check.make(net, "/a");
         Check.due("none yet", net.request(0, 0), -1);
         net.publish(1, a, -1, 0);

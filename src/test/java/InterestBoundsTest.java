@@ -9,6 +9,7 @@ public final class InterestBoundsTest {
         anEntryMoreThanPendingIsNacked();
         anEntryThatIsThereNeedsNoRoom();
         roomIsThereAgainWhenAnEntryIsGone();
+        entriesThatStayAreAsTheyWereWhenOneIsGone();
         entriesAreOfNameAndFlagsTogether();
         anotherFacesAskOnlyWaits();
         aSecondAskOfAFaceIsPassedOn();
@@ -32,7 +33,7 @@ public final class InterestBoundsTest {
         Check.end();
     }
 
-    /** The interest is doubled on the wire: node 1 has an errand of its nonce when it comes again. */
+    /** The interest is doubled on the wire: it finds an errand of its nonce the second time. */
     private static void anErrandsNonceIsNacked() {
         Check.says("If there is an entry of its name and flags with an errand of its nonce");
         NameNet net = Nets.line(0, 6, 9);
@@ -196,6 +197,39 @@ public final class InterestBoundsTest {
         net.tick();
         net.ask(0, b, 0, 9);
         Check.due("behind LIFE ticks", net.request(4, 0), 0);
+    }
+
+    /** Each of three is gone in its turn, and two new ones are made. */
+    private static void entriesThatStayAreAsTheyWereWhenOneIsGone() {
+        Check.says("PENDING ENTRIES of a node: at most PENDING, in the order in which they were");
+        for (int gone = 1; gone <= 3; gone++) {
+            NameNet net = Nets.pair(0, 4, 9);
+            Nets.fillNames(net, 6);
+            for (int name = 1; name <= 3; name++) {
+                net.publish(1, name, name, 0);
+                net.ask(0, name, 0, 9);
+            }
+            for (int name = 1; name <= 3; name++) {
+                Check.carry(net, 0, 0, 0);
+            }
+            for (int i = 1; i < gone; i++) {
+                net.alter(1, 0, true);
+                net.alter(1, 0, false);
+            }
+            Check.carry(net, 1, 0, 1);
+            Check.due("two stay", net.waiting(0, 0), 2);
+            net.ask(0, 4, 0, 9);
+            net.ask(0, 5, 0, 9);
+            Check.due("two more", net.waiting(0, 0), 4);
+            for (int name = 1; name <= 5; name++) {
+                Check.due("name " + name, net.request(name - 1, 0), name == gone ? 1 : 0);
+            }
+            Check.carry(net, 1, 0, 1);
+            Check.carry(net, 1, 0, 1);
+            for (int name = 1; name <= 5; name++) {
+                Check.due("name " + name, net.request(name - 1, 0), name <= 3 ? 1 : 0);
+            }
+        }
     }
 
     private static void entriesAreOfNameAndFlagsTogether() {

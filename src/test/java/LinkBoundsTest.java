@@ -22,6 +22,7 @@ public final class LinkBoundsTest {
         aWireHasAtMostEightInterests();
         aWireHasAtMostEightDatas();
         aWireHasAtMostEightNacks();
+        aFullWireIsOneFacesAlone();
         whatIsSentWithoutALinkIsLost();
         whatIsSentOverALinkThatIsDownIsLost();
         alterRefusesFacesThatAreNone();
@@ -294,6 +295,23 @@ public final class LinkBoundsTest {
         }
         Check.due("no nack behind them", net.carry(1, 0), -1);
         Check.due("the request waits", net.request(0, 0), 0);
+    }
+
+    private static void aFullWireIsOneFacesAlone() {
+        Check.says("For each of the two faces there is a WIRE");
+        NameNet net = Nets.star(3, 1, 1, 1);
+        for (int i = 0; i < 8; i++) {
+            net.announce(0, 0, true);
+        }
+        for (int face = 0; face < 3; face += 2) {
+            Check.carry(net, 0, face, 3);
+        }
+        net.announce(0, 0, true);
+        Check.due("face 0", net.waiting(0, 2), 8);
+        Check.due("face 1 was full", net.waiting(0, 3), 8);
+        Check.due("face 2", net.waiting(0, 4), 8);
+        net.announce(1, 0, true);
+        Check.due("the other side of a full wire", net.waiting(1, 2), 1);
     }
 
     private static void whatIsSentWithoutALinkIsLost() {

@@ -225,7 +225,8 @@ public final class RandomRunsTest {
         if (place < 10) {
             String told = null;
             for (int what = 0; what < 4 && told == null; what++) {
-                told = same("fetched", net.fetched(place - 5, what), model.fetched(place - 5, what));
+                int node = place - 5;
+                told = same("fetched", net.fetched(node, what), model.fetched(node, what));
             }
             return told;
         }

@@ -24,9 +24,12 @@ public final class RouteBoundsTest {
         aGreaterSerialIsToldWhateverTheFaceHad();
         theSameSerialWith99IsNothing();
         theSameSerialAsDearIsNothing();
+        theSameSerialDearerIsNothing();
         theSameSerialAtANewFaceIsToldOnlyIfCheaper();
+        theSameSerialAsDearAtANewFaceIsNotTold();
         theSameSerialCheaperAtItsFaceIsTold();
         theSameSerialCheaperButNotTheLeastIsNotTold();
+        theLeastMayBeALaterFaces();
         aCostIsTheLeastOfAllOrigins();
         costIsNoneWithoutARoute();
         costRefusesArgumentsThatAreNone();
@@ -143,9 +146,17 @@ public final class RouteBoundsTest {
     private static void aNewRouteHasSerialOne() {
         Check.says("has a serial of 1 more (1 for a new one)");
         NameNet net = new NameNet(1, 1, 1);
-        for (int serial = 1; serial <= 40; serial++) {
+        for (int serial = 1; serial <= 200; serial++) {
             Check.due("serial", net.announce(0, 0, serial % 2 == 1), serial);
             Check.due("cost of face 4", net.cost(0, 0, 4), serial % 2 == 1 ? 0 : -1);
+        }
+        net.link(0, 0, 1, 0);
+        for (int serial = 201; serial <= 208; serial++) {
+            Check.due("serial", net.announce(0, 0, serial % 2 == 1), serial);
+        }
+        for (int serial = 201; serial <= 208; serial++) {
+            Check.carry(net, 0, 0, 3);
+            Check.due("heard as the newest", net.cost(1, 0, 0), serial % 2 == 1 ? 1 : -1);
         }
     }
 
@@ -339,6 +350,49 @@ public final class RouteBoundsTest {
         Check.due("not told", net.waiting(2, 4), 0);
     }
 
+    /** The notice of the long way is doubled on its wire and comes behind the short way's. */
+    private static void theSameSerialDearerIsNothing() {
+        Check.says("f has none or a greater one");
+        NameNet net = new NameNet(1, 1, 1);
+        net.link(0, 0, 3, 0);
+        net.link(3, 1, 2, 1);
+        net.link(0, 1, 2, 0);
+        net.link(2, 2, 1, 1);
+        net.link(1, 2, 4, 0);
+        net.announce(0, 0, true);
+        Check.carry(net, 0, 0, 3);
+        Check.carry(net, 3, 1, 3);
+        Check.carry(net, 0, 1, 3);
+        net.alter(2, 2, true);
+        net.alter(2, 2, false);
+        Check.carry(net, 2, 2, 3);
+        Check.due("the short way", net.cost(1, 0, 1), 2);
+        Nets.drop(net, 1);
+        Check.carry(net, 2, 2, 3);
+        Check.due("the long way is nothing", net.cost(1, 0, 1), 2);
+        Check.due("not told", net.waiting(1, 4), 0);
+    }
+
+    /** Node 3 is reached by nodes 1 and 2 alike. */
+    private static void theSameSerialAsDearAtANewFaceIsNotTold() {
+        Check.says("if the least cost of the route is less than before");
+        NameNet net = new NameNet(1, 1, 1);
+        net.link(0, 0, 1, 0);
+        net.link(0, 1, 2, 0);
+        net.link(1, 1, 3, 0);
+        net.link(2, 1, 3, 1);
+        net.link(3, 2, 4, 0);
+        net.announce(0, 0, true);
+        Check.carry(net, 0, 0, 3);
+        Check.carry(net, 0, 1, 3);
+        Check.carry(net, 1, 1, 3);
+        Nets.drop(net, 3);
+        Check.carry(net, 2, 1, 3);
+        Check.due("face 0", net.cost(3, 0, 0), 2);
+        Check.due("face 1 as dear", net.cost(3, 0, 1), 2);
+        Check.due("not told", net.waiting(3, 4), 0);
+    }
+
     private static void theSameSerialAtANewFaceIsToldOnlyIfCheaper() {
         Check.says("if the least cost of the route is less than before");
         NameNet cheapFirst = ring();
@@ -404,6 +458,30 @@ public final class RouteBoundsTest {
         Check.carry(net, 2, 2, 3);
         Check.due("the short way in its place", net.cost(1, 0, 1), 2);
         Check.due("not told", net.waiting(1, 4), 0);
+    }
+
+    /** Node 1 hears cost 3 at face 1, then 1 at face 3, then 2 at face 1. */
+    private static void theLeastMayBeALaterFaces() {
+        Check.says("Its LEAST cost is the least of these.");
+        NameNet net = longWayFirst();
+        net.link(0, 3, 1, 3);
+        net.turn(0, 2, false);
+        net.announce(0, 0, true);
+        Check.carry(net, 0, 0, 3);
+        Nets.drop(net, 2);
+        Check.carry(net, 3, 1, 3);
+        Check.carry(net, 2, 2, 3);
+        Check.due("the long way", net.cost(1, 0, 1), 3);
+        Check.carry(net, 0, 3, 3);
+        Check.due("straight from node 0", net.cost(1, 0, 3), 1);
+        Nets.drop(net, 1);
+        for (int i = 0; i < 2; i++) {
+            Check.carry(net, 0, 1, 3);
+        }
+        Nets.drop(net, 1);
+        Check.carry(net, 2, 2, 3);
+        Check.due("the short way in its place", net.cost(1, 0, 1), 2);
+        Check.due("not told, for face 3 has less", net.waiting(1, 4), 0);
     }
 
     private static void aCostIsTheLeastOfAllOrigins() {

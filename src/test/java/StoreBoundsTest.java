@@ -13,6 +13,7 @@ public final class StoreBoundsTest {
         period20IsFreshFor19Ticks();
         keepingAnewSetsUntilAnew();
         servingLeavesUntilAsItWas();
+        eachDataHasAnUntilOfItsOwn();
         freshenedPassesOverWhatIsNotFresh();
         notFreshIsServedWhenNotFreshened();
         aDataIsKeptBeforeItIsSent();
@@ -201,6 +202,31 @@ public final class StoreBoundsTest {
         answered(net, 1, 2, 1);
         net.tick();
         refused(net, 1, 2);
+    }
+
+    /** Four datas with periods of 4, 1, 3, 2 in a store of three: the first makes room. */
+    private static void eachDataHasAnUntilOfItsOwn() {
+        Check.says("each with a name that no other one there has and a tick UNTIL which it is");
+        NameNet net = new NameNet(3, 6, 9);
+        Nets.fillNames(net, 5);
+        net.announce(0, 0, true);
+        int[] periods = {0, 4, 1, 3, 2};
+        for (int name = 1; name <= 4; name++) {
+            net.publish(0, name, name, periods[name]);
+            answered(net, name, 0, name);
+        }
+        net.announce(0, 0, false);
+        refused(net, 1, 2);
+        for (int now = 0; now <= 4; now++) {
+            for (int name = 2; name <= 4; name++) {
+                if (now < periods[name]) {
+                    answered(net, name, 2, name);
+                } else {
+                    refused(net, name, 2);
+                }
+            }
+            net.tick();
+        }
     }
 
     private static void freshenedPassesOverWhatIsNotFresh() {
