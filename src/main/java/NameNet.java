@@ -394,7 +394,7 @@ public final class NameNet {
     private void interestComes(Node node, int face, Packet interest) {
         Entry entry = node.pending.find(interest.name, interest.flags);
         if (entry != null && entry.hasSeen(interest.nonce, face)) {
-            sendNack(node, face, interest.name, interest.flags, interest.nonce);
+            sendNack(node, face, Packet.nack(interest.name, interest.flags, interest.nonce));
             return;
         }
         Packet data = node.store.serve(interest, names, now);
@@ -407,7 +407,7 @@ public final class NameNet {
             entry = node.pending.make(interest.name, interest.flags);
         }
         if (entry == null) {
-            sendNack(node, face, interest.name, interest.flags, interest.nonce);
+            sendNack(node, face, Packet.nack(interest.name, interest.flags, interest.nonce));
             return;
         }
         boolean askedBefore = entry.hasAsk(face);
@@ -450,7 +450,7 @@ public final class NameNet {
         }
         for (int face = 0; face < FACES; face++) {
             if (entry.hasAsk(face)) {
-                sendNack(node, face, entry.name, entry.flags, entry.askNonce[face]);
+                sendNack(node, face, Packet.nack(entry.name, entry.flags, entry.askNonce[face]));
             }
         }
         node.pending.takeOut(entry);
@@ -507,11 +507,11 @@ public final class NameNet {
         }
     }
 
-    private void sendNack(Node node, int face, int name, int flags, int nonce) {
+    private void sendNack(Node node, int face, Packet nack) {
         if (face < LINK_FACES) {
-            node.faces[face].put(Packet.nack(name, flags, nonce));
+            node.faces[face].put(nack);
         } else {
-            endRequests(node.number, name, flags, null);
+            endRequests(node.number, nack.name, nack.flags, null);
         }
     }
 
@@ -715,6 +715,16 @@ public final class NameNet {
             for (int i = 0; i < FACES; i++) {
                 costs[i] = i == face && cost != UNREACHABLE ? cost : NONE;
             }
+        }
+
+        /** Takes a face's cost if it is a better one; whether it is less than all there were. */
+        boolean improve(int face, int cost) {
+            if (cost == UNREACHABLE || (costs[face] != NONE && costs[face] <= cost)) {
+                return false;
+            }
+            int before = least();
+            costs[face] = cost;
+            return before == NONE || cost < before;
         }
 
         int least() {
@@ -1118,21 +1128,14 @@ public final class NameNet {
             if (route == null || route.serial > notice.serial) {
                 return;
             }
-            boolean reachable = notice.cost != UNREACHABLE;
             boolean tell = true;
             if (route.serial < notice.serial) {
                 route.begin(notice.serial, face, notice.cost);
             } else {
-                int before = route.least();
-                int had = route.costs[face];
-                if (!reachable || (had != NONE && had <= notice.cost)) {
-                    return;
-                }
-                route.costs[face] = notice.cost;
-                tell = before == NONE || notice.cost < before;
+                tell = route.improve(face, notice.cost);
             }
             if (tell) {
-                int further = reachable ? notice.cost + 1 : UNREACHABLE;
+                int further = notice.cost == UNREACHABLE ? UNREACHABLE : notice.cost + 1;
                 spread(Packet.notice(notice.origin, notice.name, notice.serial, further), face);
             }
         }
